@@ -353,13 +353,11 @@ public final class EdgeCache {
             Request finished = request;
             finished.body = body.toString();
             request = new Request();
-            line.setLength(0);
             body.setLength(0);
             part = REQUEST_LINE;
             headers = 0;
             length = NONE;
             chunked = false;
-            left = 0;
             return finished;
         }
 
@@ -774,7 +772,6 @@ public final class EdgeCache {
             return best;
         }
 
-        /** Sets one letter's body and tag, and the policy of them all. */
         void set(int place, String body, int tag, String policy) {
             if (place < 0 || place >= LETTERS) {
                 return;
@@ -996,7 +993,6 @@ public final class EdgeCache {
             }
         }
 
-        /** Drops what a response to this request, varying or not, comes in place of. */
         void dropReplaced(Request request, boolean varies) {
             for (int i = byUse.size() - 1; i >= 0; i--) {
                 Stored old = byUse.get(i);
@@ -1047,7 +1043,6 @@ public final class EdgeCache {
             return text.toString();
         }
 
-        /** What selecting answers to a GET or HEAD. */
         String select(Representation chosen, Request request, int age) {
             if (request.match != null && !Text.matches(request.match, chosen.tag)) {
                 return bare(412, 0);

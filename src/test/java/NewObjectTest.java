@@ -5,6 +5,7 @@ public final class NewObjectTest {
     public static void main(String[] args) {
         everythingIsEmpty();
         capacities();
+        largestCapacity();
         tags();
         clocks();
         KIT.end();
@@ -45,6 +46,21 @@ public final class NewObjectTest {
         for (int i = 0; i < capacities.length; i++) {
             KIT.due("stored() with capacity " + capacities[i], storedWith(capacities[i], false), counts[i]);
             KIT.due("bytes() with capacity " + capacities[i], storedWith(capacities[i], true), 40 * counts[i]);
+        }
+    }
+
+    /** Seven responses of 40 bytes, and one of 20 or 21. */
+    private static void largestCapacity() {
+        for (int size = 20; size <= 21; size++) {
+            EdgeCache x = new EdgeCache(1000);
+            Kit.ask(x, 2, Kit.put("/", "a", "s1234567", "12345678"));
+            Kit.ask(x, 2, Kit.put("/", "b", "s1234567", "12345678"));
+            Kit.ask(x, 2, Kit.put("/x", "a", "", "1234".substring(0, size - 17)));
+            for (int i = 1; i <= 7; i++) {
+                Kit.fetch(x, 0, "GET /\nV:a" + i + "\n\n");
+            }
+            Kit.fetch(x, 1, "GET /x\n\n");
+            KIT.due("bytes() with " + (280 + size) + " offered", x.bytes(), size == 20 ? 300 : 261);
         }
     }
 

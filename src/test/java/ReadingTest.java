@@ -88,6 +88,20 @@ public final class ReadingTest {
         KIT.due("the path of " + target + " as " + other, Kit.ask(x, 2, "HEAD " + target + "\n\n"), Kit.bare(404));
     }
 
+    private static void duePair(int value) {
+        String pair = String.format("%%%02x", value);
+        String meant = "" + (char) value;
+        if (value < 128 && meant.matches("[A-Za-z0-9._~-]")) {
+            duePath("/a" + pair, "/a" + meant);
+            return;
+        }
+        duePath("/a" + pair, "/a" + pair.toUpperCase());
+        duePath("/a" + pair.toUpperCase(), "/a" + pair);
+        if (value > 32 && value < 127 && value != '%') {
+            dueOtherPath("/a" + pair, "/a" + meant);
+        }
+    }
+
     private static void paths() {
         String[] targets = {
             "/%41%7a%30", "/Az0", "/%2d%2E%5f%7E", "/-._~", "/%3f%2f", "/%3F%2F", "/a?%41%2f", "/a?A%2F",
@@ -98,6 +112,9 @@ public final class ReadingTest {
             "/123/56/89/..", "/123/56/", "//../..//a", "//a"};
         for (int i = 0; i < targets.length; i += 2) {
             duePath(targets[i], targets[i + 1]);
+        }
+        for (int value = 0; value < 256; value++) {
+            duePair(value);
         }
         dueOtherPath("//", "/");
         dueOtherPath("/A", "/a");
@@ -125,6 +142,10 @@ public final class ReadingTest {
         dueRefused("GET /\nA:123456789\n", 431);
         dueRefused("GET /\nL:123456789\n", 431);
         dueRefused("GET /\nL:12345678x\n", 431);
+        EdgeCache y = new EdgeCache(0);
+        KIT.due("eight lines in each of two requests", Kit.ask(y, 2, "GET /\n" + eight + "\nGET /\n" + eight + "\n"),
+                Kit.bare(404) + Kit.bare(404));
+        KIT.due("nine in the third", Kit.ask(y, 2, "GET /\n" + eight + "A:\n"), Kit.bare(431));
         EdgeCache x = new EdgeCache(0);
         KIT.due("the last K counts", Kit.ask(x, 2, "PUT /\nK:z\nK:b\nP:s1\nP:s2\n\n"), "201\nE:1\nL:0\n\n");
         KIT.due("the last P, M and N count", Kit.ask(x, 2, "GET /\nM:2\nM:1\nN:1\nN:2\nV:c\nV:b\n\n"),
@@ -132,7 +153,7 @@ public final class ReadingTest {
     }
 
     private static void lengths() {
-        String[] wrong = {"", "x", "-1", "+1", "1x", "001", " 1", "1 ", "1,1", "100"};
+        String[] wrong = {"", "x", "-1", "+1", "1x", "001", " 1", "1 ", "1,1", "100", "1/", "0:"};
         for (String value : wrong) {
             dueRefused("PUT /\nL:" + value + "\n", 400);
         }

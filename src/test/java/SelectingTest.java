@@ -5,6 +5,7 @@ public final class SelectingTest {
 
     public static void main(String[] args) {
         conditions();
+        longTags();
         ranges();
         rangeConditions();
         emptyBody();
@@ -34,7 +35,7 @@ public final class SelectingTest {
             due("GET", "N:" + value + "\n", "304\n" + HEAD + "\n");
             due("HEAD", "N:" + value + "\n", "304\n" + HEAD + "\n");
         }
-        for (String value : new String[] {"", "2", "10", "11", " 1", "1 ", "-1", "+1", "**", "*,2", " *", "* ", "1x", ",", "\"1\""}) {
+        for (String value : new String[] {"", "2", "10", "11", " 1", "1 ", "-1", "+1", "**", "*,2", " *", "* ", "1x", ",", "\"1\"", "/", "0:", "1/"}) {
             due("GET", "M:" + value + "\n", Kit.bare(412));
             due("HEAD", "M:" + value + "\n", Kit.bare(412));
             due("GET", "N:" + value + "\n", whole());
@@ -52,6 +53,19 @@ public final class SelectingTest {
         Kit.ask(x, 2, "PUT /\nK:b\nL:1\n\nx");
         KIT.due("304 that varies", Kit.ask(x, 2, "GET /\nN:2\nV:b\n\n"), "304\nE:2\nK:b\nY:V\n\n");
         KIT.due("206 that varies", Kit.ask(x, 2, "GET /\nR:0-\nV:b\n\n"), "206\nE:2\nK:b\nY:V\nR:0-0/1\nL:1\n\nx");
+    }
+
+    private static void longTags() {
+        EdgeCache x = new EdgeCache(0);
+        for (int i = 1; i <= 12; i++) {
+            Kit.ask(x, 2, "PUT /\nL:2\n\n" + (10 + i));
+        }
+        String whole = "200\nE:12\nK:a\nL:2\n\n22";
+        KIT.due("M of two digits", Kit.ask(x, 2, "GET /\nM:3,12\n\n"), whole);
+        KIT.due("M with a sign behind the digits", Kit.ask(x, 2, "GET /\nM:1:\n\n"), Kit.bare(412));
+        KIT.due("N of other numbers", Kit.ask(x, 2, "GET /\nN:1,2,112\n\n"), whole);
+        KIT.due("N of two digits", Kit.ask(x, 2, "GET /\nN:1,012\n\n"), "304\nE:12\nK:a\n\n");
+        KIT.due("I of two digits", Kit.ask(x, 2, "GET /\nI:12\nR:-1\n\n"), "206\nE:12\nK:a\nR:1-1/2\nL:1\n\n2");
     }
 
     private static void duePart(String range, String span, String body) {

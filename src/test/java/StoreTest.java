@@ -68,12 +68,13 @@ public final class StoreTest {
             KIT.due(policy + " before its end", answers(policy, life - 1, "GET /\n\n"), true);
         }
         KIT.due(policy + " at its end", answers(policy, life, "GET /\n\n"), false);
+        KIT.due(policy + " after its end", answers(policy, life + 1, "GET /\n\n"), false);
     }
 
     private static void freshness() {
         String[] policies = {"", "s5", "m5", "s5m9", "m9s5", "sm7", "s", "m", "s0m9", "s5s", "s5sm3", "s3s8", "s 9", "s9 1", "S9",
-            "m5,s10", "s007", "am4", "qs2q"};
-        int[] lives = {0, 5, 5, 5, 5, 7, 0, 0, 0, 0, 3, 8, 0, 9, 0, 10, 7, 4, 2};
+            "m5,s10", "s007", "am4", "qs2q", "9", "9s", "9s3", "s3:", "s3/", "s12m5"};
+        int[] lives = {0, 5, 5, 5, 5, 7, 0, 0, 0, 0, 3, 8, 0, 9, 0, 10, 7, 4, 2, 0, 0, 3, 3, 3, 12};
         for (int i = 0; i < policies.length; i++) {
             dueLife(policies[i], lives[i]);
         }
@@ -83,8 +84,8 @@ public final class StoreTest {
     }
 
     private static void requestControl() {
-        String[] controls = {"n", "n5", "a4", "a5", "a", "a4a", "a4a9", "a9a4", "a0", "x", "A4", "s1", "", "p", "a 4", "a05"};
-        boolean[] used = {false, false, false, true, true, true, true, false, false, true, true, true, true, true, true, true};
+        String[] controls = {"n", "n5", "a4", "a5", "a", "a4a", "a4a9", "a9a4", "a0", "x", "A4", "s1", "", "p", "a 4", "a05", "0", "4a", "a10"};
+        boolean[] used = {false, false, false, true, true, true, true, false, false, true, true, true, true, true, true, true, true, true, true};
         for (int i = 0; i < controls.length; i++) {
             KIT.due("C:" + controls[i], answers("s99", 5, "GET /\nC:" + controls[i] + "\n\n"), used[i]);
         }
