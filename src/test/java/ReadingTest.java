@@ -14,27 +14,6 @@ public final class ReadingTest {
         KIT.end();
     }
 
-    /** The status of the first answer on connection 2 to the text; 0 when there is none yet. */
-    private static int status(String text) {
-        EdgeCache x = new EdgeCache(0);
-        Kit.send(x, 2, text);
-        String answer = Kit.read(x, 2);
-        return answer.isEmpty() ? 0 : Integer.parseInt(answer.substring(0, 3));
-    }
-
-    private static void dueStatus(String text, int want) {
-        KIT.due("the status to '" + text.replace("\n", "|") + "'", status(text), want);
-    }
-
-    private static void dueRefused(String text, int want) {
-        EdgeCache x = new EdgeCache(0);
-        String name = "'" + text.replace("\n", "|") + "'";
-        KIT.due("bytes taken of " + name, Kit.send(x, 2, text + "GET /\n\n"), text.length());
-        KIT.due("open(2) after " + name, x.open(2), false);
-        KIT.due("the answer to " + name, Kit.read(x, 2), Kit.bare(want));
-        KIT.due("feed after " + name, x.feed(2, 'G'), 0);
-    }
-
     private static void takenBytes() {
         EdgeCache x = new EdgeCache(0);
         KIT.due("feed(3)", x.feed(3, 65), 0);
@@ -46,8 +25,8 @@ public final class ReadingTest {
         KIT.due("feed of one LF, the highest byte", x.feed(2, 0x0a00000000000000L), 1);
         KIT.due("the answer", Kit.read(x, 2), Kit.bare(404));
         KIT.due("open(2)", x.open(2), true);
-        dueStatus("\n\n\nGET /\n\n", 404);
-        dueStatus("GET /\n", 0);
+        KIT.dueTaken("\n\n\nGET /\n\n", 404);
+        KIT.dueTaken("GET /\n", 0);
         KIT.due("bytes above 127 in a body", Kit.ask(bodyOf("\u00ff\u0080\n\u0001"), 2, "GET /\n\n"),
                 "200\nE:1\nK:a\nL:4\n\n\u00ff\u0080\n\u0001");
     }
@@ -61,44 +40,32 @@ public final class ReadingTest {
     private static void requestLines() {
         String[] good = {"GET /", "HEAD /", "DELETE /", "GET /!~", "GET /%2f", "GET /%2F%aF"};
         for (String line : good) {
-            dueStatus(line + "\n\n", 404);
+            KIT.dueTaken(line + "\n\n", 404);
         }
-        dueStatus("PUT /\n\n", 201);
+        KIT.dueTaken("PUT /\n\n", 201);
         String[] wrong = {"get /", "POST /", "GE /", "GETT /", "GET", "GET ", "GET  /", " GET /", "GET /a b", "GET / ",
             "GET a", "GET ?", "GET %2f", "GET /%", "GET /%2", "GET /%2g", "GET /%g2", "GET /%%41", "GET /a%4",
             "GET /\u007f", "GET /\u001f", "GET /\u00e9", "GET /\r", "GET\t/", "X", " "};
         for (String line : wrong) {
-            dueRefused(line + "\n", 400);
+            KIT.dueRefused(line + "\n", 400);
         }
-        dueRefused("GET /12345678\n", 414);
-        dueStatus("GET /1234567\n\n", 404);
-        dueRefused("GET /%25%25%25\n", 414);
-        dueStatus("GET /%41%42%43\n\n", 404);
-    }
-
-    private static void duePath(String target, String same) {
-        EdgeCache x = new EdgeCache(0);
-        Kit.ask(x, 2, "PUT " + same + "\n\n");
-        KIT.due("the path of " + target + " as " + same, Kit.ask(x, 2, "HEAD " + target + "\n\n"), "200\nE:1\nK:a\nL:0\n\n");
-    }
-
-    private static void dueOtherPath(String target, String other) {
-        EdgeCache x = new EdgeCache(0);
-        Kit.ask(x, 2, "PUT " + other + "\n\n");
-        KIT.due("the path of " + target + " as " + other, Kit.ask(x, 2, "HEAD " + target + "\n\n"), Kit.bare(404));
+        KIT.dueRefused("GET /12345678\n", 414);
+        KIT.dueTaken("GET /1234567\n\n", 404);
+        KIT.dueRefused("GET /%25%25%25\n", 414);
+        KIT.dueTaken("GET /%41%42%43\n\n", 404);
     }
 
     private static void duePair(int value) {
         String pair = String.format("%%%02x", value);
         String meant = "" + (char) value;
         if (value < 128 && meant.matches("[A-Za-z0-9._~-]")) {
-            duePath("/a" + pair, "/a" + meant);
+            KIT.duePath("/a" + pair, "/a" + meant);
             return;
         }
-        duePath("/a" + pair, "/a" + pair.toUpperCase());
-        duePath("/a" + pair.toUpperCase(), "/a" + pair);
+        KIT.duePath("/a" + pair, "/a" + pair.toUpperCase());
+        KIT.duePath("/a" + pair.toUpperCase(), "/a" + pair);
         if (value > 32 && value < 127 && value != '%') {
-            dueOtherPath("/a" + pair, "/a" + meant);
+            KIT.dueOtherPath("/a" + pair, "/a" + meant);
         }
     }
 
@@ -111,37 +78,37 @@ public final class ReadingTest {
             "/a/..?x/..", "/?x/..", "/.?", "/?", "/a/../?", "/?", "/a/b/c/../..", "/a/",
             "/123/56/89/..", "/123/56/", "//../..//a", "//a"};
         for (int i = 0; i < targets.length; i += 2) {
-            duePath(targets[i], targets[i + 1]);
+            KIT.duePath(targets[i], targets[i + 1]);
         }
         for (int value = 0; value < 256; value++) {
             duePair(value);
         }
-        dueOtherPath("//", "/");
-        dueOtherPath("/A", "/a");
-        dueOtherPath("/a/", "/a");
-        dueOtherPath("/a?", "/a");
-        dueOtherPath("/%2f", "//");
-        dueOtherPath("/%3f", "/?");
-        dueOtherPath("/%2541", "/A");
-        dueOtherPath("/?b/../c", "/?c");
+        KIT.dueOtherPath("//", "/");
+        KIT.dueOtherPath("/A", "/a");
+        KIT.dueOtherPath("/a/", "/a");
+        KIT.dueOtherPath("/a?", "/a");
+        KIT.dueOtherPath("/%2f", "//");
+        KIT.dueOtherPath("/%3f", "/?");
+        KIT.dueOtherPath("/%2541", "/A");
+        KIT.dueOtherPath("/?b/../c", "/?c");
     }
 
     private static void headerLines() {
         String eight = "A:\nB:\nD:\nE:\nF:\nG:\nH:\nJ:\n";
-        dueStatus("GET /\n" + eight + "\n", 404);
-        dueRefused("GET /\n" + eight + "O:\n", 431);
-        dueRefused("GET /\n" + eight + "x\n", 431);
-        dueRefused("GET /\nA:\nA:\nA:\nA:\nA:\nA:\nA:\nA:\nA:\n", 431);
+        KIT.dueTaken("GET /\n" + eight + "\n", 404);
+        KIT.dueRefused("GET /\n" + eight + "O:\n", 431);
+        KIT.dueRefused("GET /\n" + eight + "x\n", 431);
+        KIT.dueRefused("GET /\nA:\nA:\nA:\nA:\nA:\nA:\nA:\nA:\nA:\n", 431);
         String[] wrong = {"a:1", "1:1", ":1", "A", "A 1", "A1:", "AB:1", " A:1", "A:\u001f", "A:\u007f", "A:\u00ff", "A:\t",
             "A:123456789\u007f", "[:1", "@:1", "A"};
         for (String line : wrong) {
-            dueRefused("GET /\n" + line + "\n", 400);
+            KIT.dueRefused("GET /\n" + line + "\n", 400);
         }
-        dueStatus("GET /\nA: ~:,*%?x\n\n", 404);
-        dueStatus("GET /\nA:12345678\nZ:\n\n", 404);
-        dueRefused("GET /\nA:123456789\n", 431);
-        dueRefused("GET /\nL:123456789\n", 431);
-        dueRefused("GET /\nL:12345678x\n", 431);
+        KIT.dueTaken("GET /\nA: ~:,*%?x\n\n", 404);
+        KIT.dueTaken("GET /\nA:12345678\nZ:\n\n", 404);
+        KIT.dueRefused("GET /\nA:123456789\n", 431);
+        KIT.dueRefused("GET /\nL:123456789\n", 431);
+        KIT.dueRefused("GET /\nL:12345678x\n", 431);
         EdgeCache y = new EdgeCache(0);
         KIT.due("eight lines in each of two requests", Kit.ask(y, 2, "GET /\n" + eight + "\nGET /\n" + eight + "\n"),
                 Kit.bare(404) + Kit.bare(404));
@@ -155,22 +122,22 @@ public final class ReadingTest {
     private static void lengths() {
         String[] wrong = {"", "x", "-1", "+1", "1x", "001", " 1", "1 ", "1,1", "100", "1/", "0:"};
         for (String value : wrong) {
-            dueRefused("PUT /\nL:" + value + "\n", 400);
+            KIT.dueRefused("PUT /\nL:" + value + "\n", 400);
         }
-        dueRefused("PUT /\nL:1\nL:2\n", 400);
-        dueStatus("PUT /\nL:1\nL:01\nL:1\n\nx", 201);
-        dueStatus("PUT /\nL:1\n\n", 0);
-        dueStatus("PUT /\nL:0\n\n", 201);
-        dueStatus("PUT /\nL:00\n\n", 201);
-        dueStatus("PUT /\nL:8\n\n12345678", 201);
-        dueRefused("PUT /\nL:9\n\n", 413);
-        dueRefused("GET /\nL:99\n\n", 413);
-        dueRefused("DELETE /\nL:09\n\n", 413);
-        dueRefused("PUT /\nL:0\nT:c\n\n", 400);
-        dueRefused("PUT /\nT:c\nL:99\n\n", 400);
+        KIT.dueRefused("PUT /\nL:1\nL:2\n", 400);
+        KIT.dueTaken("PUT /\nL:1\nL:01\nL:1\n\nx", 201);
+        KIT.dueTaken("PUT /\nL:1\n\n", 0);
+        KIT.dueTaken("PUT /\nL:0\n\n", 201);
+        KIT.dueTaken("PUT /\nL:00\n\n", 201);
+        KIT.dueTaken("PUT /\nL:8\n\n12345678", 201);
+        KIT.dueRefused("PUT /\nL:9\n\n", 413);
+        KIT.dueRefused("GET /\nL:99\n\n", 413);
+        KIT.dueRefused("DELETE /\nL:09\n\n", 413);
+        KIT.dueRefused("PUT /\nL:0\nT:c\n\n", 400);
+        KIT.dueRefused("PUT /\nT:c\nL:99\n\n", 400);
         String[] wrongCodings = {"", "C", "cc", "c ", " c", "1"};
         for (String value : wrongCodings) {
-            dueRefused("PUT /\nT:" + value + "\n", 400);
+            KIT.dueRefused("PUT /\nT:" + value + "\n", 400);
         }
         EdgeCache x = new EdgeCache(0);
         KIT.due("a body that looks like requests", Kit.ask(x, 2, "GET /\nL:7\n\nGET /\n\nGET /\nL:2\n\n\n\nDELETE /\n\n"),
@@ -183,36 +150,36 @@ public final class ReadingTest {
         KIT.due("the body of chunks", Kit.ask(x, 2, "GET /\n\n"), "200\nE:1\nK:a\nL:8\n\na\nbcdefg");
         KIT.due("no chunk", Kit.ask(x, 2, "PUT /\nT:c\n\n0\n\n"), "204\nE:2\nL:0\n\n");
         KIT.due("chunks of a GET", Kit.ask(x, 2, "GET /\nT:c\n\n1\n\n\n0\n\n"), "200\nE:2\nK:a\nL:0\n\n");
-        dueStatus("PUT /\nT:c\n\n0\n", 0);
-        dueStatus("PUT /\nT:c\n\n8\n12345678\n0\n\n", 201);
+        KIT.dueTaken("PUT /\nT:c\n\n0\n", 0);
+        KIT.dueTaken("PUT /\nT:c\n\n8\n12345678\n0\n\n", 201);
         String[] wrong = {"", "x", "g", "G", "00", "01", "1 ", " 1", "-", "1;a", "\u00b1"};
         for (String line : wrong) {
-            dueRefused("PUT /\nT:c\n\n" + line + "\n", 400);
+            KIT.dueRefused("PUT /\nT:c\n\n" + line + "\n", 400);
         }
         for (String digit : new String[] {"9", "a", "A", "f", "F"}) {
-            dueRefused("PUT /\nT:c\n\n" + digit + "\n", 413);
+            KIT.dueRefused("PUT /\nT:c\n\n" + digit + "\n", 413);
         }
-        dueRefused("PUT /\nT:c\n\n4\n1234\n5\n", 413);
-        dueRefused("GET /\nT:c\n\n8\n12345678\n1\n", 413);
-        dueRefused("PUT /\nT:c\n\n2\nabc", 400);
-        dueRefused("PUT /\nT:c\n\n2\n\n\n\r", 400);
+        KIT.dueRefused("PUT /\nT:c\n\n4\n1234\n5\n", 413);
+        KIT.dueRefused("GET /\nT:c\n\n8\n12345678\n1\n", 413);
+        KIT.dueRefused("PUT /\nT:c\n\n2\nabc", 400);
+        KIT.dueRefused("PUT /\nT:c\n\n2\n\n\n\r", 400);
     }
 
     private static void longLines() {
         String twenty = "12345678901234567890";
-        dueRefused(twenty + "1", 431);
-        dueRefused(twenty + "\n", 400);
-        dueRefused("GET /" + twenty.substring(4), 431);
-        dueRefused("GET /aaaaaaaaaaaaaaa\n", 414);
-        dueStatus("GET /aaaa/../bbbb/.\n\n", 404);
-        dueRefused("GET /\n" + twenty + "1", 431);
-        dueRefused("GET /\n" + twenty + "\n", 400);
-        dueRefused("GET /\nA:" + twenty.substring(2) + "\n", 431);
-        dueRefused("PUT /\nT:c\n\n" + twenty + "1", 431);
-        dueRefused("PUT /\nT:c\n\n" + twenty + "\n", 400);
-        dueRefused("PUT /\nT:c\n\n0\n" + twenty + "1", 431);
-        dueStatus("PUT /\nT:c\n\n0\n" + twenty + "\n\n", 201);
-        dueStatus("PUT /\nT:c\n\n0\n1\n2\n3\n4\n5\n6\n7\n8\n9\n10\n\n", 201);
+        KIT.dueRefused(twenty + "1", 431);
+        KIT.dueRefused(twenty + "\n", 400);
+        KIT.dueRefused("GET /" + twenty.substring(4), 431);
+        KIT.dueRefused("GET /aaaaaaaaaaaaaaa\n", 414);
+        KIT.dueTaken("GET /aaaa/../bbbb/.\n\n", 404);
+        KIT.dueRefused("GET /\n" + twenty + "1", 431);
+        KIT.dueRefused("GET /\n" + twenty + "\n", 400);
+        KIT.dueRefused("GET /\nA:" + twenty.substring(2) + "\n", 431);
+        KIT.dueRefused("PUT /\nT:c\n\n" + twenty + "1", 431);
+        KIT.dueRefused("PUT /\nT:c\n\n" + twenty + "\n", 400);
+        KIT.dueRefused("PUT /\nT:c\n\n0\n" + twenty + "1", 431);
+        KIT.dueTaken("PUT /\nT:c\n\n0\n" + twenty + "\n\n", 201);
+        KIT.dueTaken("PUT /\nT:c\n\n0\n1\n2\n3\n4\n5\n6\n7\n8\n9\n10\n\n", 201);
     }
 
     private static void limits() {

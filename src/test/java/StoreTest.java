@@ -24,34 +24,29 @@ public final class StoreTest {
         return x;
     }
 
-    private static void dueStore(EdgeCache x, String when, int stored, int bytes) {
-        KIT.due("stored() " + when, x.stored(), stored);
-        KIT.due("bytes() " + when, x.bytes(), bytes);
-    }
-
     private static void sizes() {
         EdgeCache x = with("", "");
         Kit.fetch(x, 0, "HEAD /\nR:0-\n\n");
-        dueStore(x, "of the least answer", 1, 17);
+        KIT.dueStore(x, "of the least answer", 1, 17);
         x = with("s9", "12345678");
         Kit.fetch(x, 0, "GET /\nR:0-0\n\n");
-        dueStore(x, "of a part", 1, 30);
+        KIT.dueStore(x, "of a part", 1, 30);
         x = with("s9", "12345678");
         Kit.fetch(x, 0, "GET /\nM:7\n\n");
-        dueStore(x, "of 412", 1, 30);
+        KIT.dueStore(x, "of 412", 1, 30);
         for (int i = 2; i <= 10; i++) {
             Kit.ask(x, 2, Kit.put("/", "a", "s9", "" + i));
         }
         Kit.fetch(x, 0, "GET /\nC:n\n\n");
-        dueStore(x, "of tag 10", 1, 25);
+        KIT.dueStore(x, "of tag 10", 1, 25);
         Kit.ask(x, 2, Kit.put("/", "b", "s9", "x"));
         Kit.fetch(x, 0, "GET /\nC:n\n\n");
-        dueStore(x, "that varies", 1, 29);
+        KIT.dueStore(x, "that varies", 1, 29);
         for (int capacity = 29; capacity <= 30; capacity++) {
             EdgeCache y = new EdgeCache(capacity);
             Kit.ask(y, 2, Kit.put("/", "a", "s9", "12345678"));
             Kit.fetch(y, 0, "GET /\n\n");
-            dueStore(y, "with capacity " + capacity, capacity - 29, 30 * (capacity - 29));
+            KIT.dueStore(y, "with capacity " + capacity, capacity - 29, 30 * (capacity - 29));
         }
     }
 
@@ -100,29 +95,29 @@ public final class StoreTest {
         for (String policy : new String[] {"s9x", "p", "x1s9", "s9p0"}) {
             EdgeCache x = with(policy, "x");
             Kit.fetch(x, 0, "GET /\n\n");
-            dueStore(x, "with policy " + policy, 0, 0);
+            KIT.dueStore(x, "with policy " + policy, 0, 0);
         }
         EdgeCache x = with("s9", "x");
         Kit.fetch(x, 0, "GET /\nC:x\n\n");
-        dueStore(x, "with C:x", 0, 0);
+        KIT.dueStore(x, "with C:x", 0, 0);
         Kit.fetch(x, 0, "GET /\nC:p\n\n");
-        dueStore(x, "with C:p", 1, 23);
+        KIT.dueStore(x, "with C:p", 1, 23);
         x.pass(1);
         KIT.due("C:x may be answered from the store", Kit.ask(x, 0, "GET /\nC:x\n\n"), "200\nE:1\nK:a\nP:s9\nA:1\nL:1\n\nx");
-        dueStore(x, "after that", 1, 23);
+        KIT.dueStore(x, "after that", 1, 23);
         Kit.fetch(x, 0, "GET /\nC:nx\n\n");
-        dueStore(x, "when what comes in its place is not stored", 0, 0);
+        KIT.dueStore(x, "when what comes in its place is not stored", 0, 0);
         Kit.fetch(x, 0, "GET /\n\n");
         Kit.ask(x, 2, Kit.put("/", "a", "s9p", "x"));
         Kit.fetch(x, 0, "GET /\nC:n\n\n");
-        dueStore(x, "when the policy is p then", 0, 0);
+        KIT.dueStore(x, "when the policy is p then", 0, 0);
         EdgeCache y = new EdgeCache(25);
         Kit.ask(y, 2, Kit.put("/", "a", "s9", "x"));
         Kit.fetch(y, 0, "GET /\n\n");
-        dueStore(y, "that has room", 1, 23);
+        KIT.dueStore(y, "that has room", 1, 23);
         Kit.ask(y, 2, Kit.put("/", "a", "s9", "xxxxxx"));
         Kit.fetch(y, 0, "GET /\nC:n\n\n");
-        dueStore(y, "when it is too large", 0, 0);
+        KIT.dueStore(y, "when it is too large", 0, 0);
     }
 
     private static EdgeCache twoLetters() {
@@ -136,15 +131,15 @@ public final class StoreTest {
         KIT.due("without V", Kit.fetch(x, 0, "GET /\n\n"), "200\nE:1\nK:a\nY:V\nP:s99\nL:1\n\nA");
         KIT.due("V:b", Kit.fetch(x, 0, "GET /\nV:b\n\n"), "200\nE:2\nK:b\nY:V\nP:s99\nL:1\n\nB");
         KIT.due("V:b1", Kit.fetch(x, 0, "GET /\nV:b1\n\n"), "200\nE:2\nK:b\nY:V\nP:s99\nL:1\n\nB");
-        dueStore(x, "of three V", 3, 84);
+        KIT.dueStore(x, "of three V", 3, 84);
         KIT.due("without V again", Kit.ask(x, 1, "GET /\n\n"), "200\nE:1\nK:a\nY:V\nP:s99\nA:0\nL:1\n\nA");
         KIT.due("V:b again", Kit.ask(x, 1, "GET /\nV:b\n\n"), "200\nE:2\nK:b\nY:V\nP:s99\nA:0\nL:1\n\nB");
         KIT.due("an empty V is not none", Kit.ask(x, 1, "GET /\nV:\n\n"), "");
         x.origin(0);
         KIT.due("arrive(0)", x.arrive(0), 406);
-        dueStore(x, "after 406 for another V", 3, 84);
+        KIT.dueStore(x, "after 406 for another V", 3, 84);
         Kit.fetch(x, 0, "GET /\nV:b\nC:n\n\n");
-        dueStore(x, "after the same V", 3, 84);
+        KIT.dueStore(x, "after the same V", 3, 84);
     }
 
     private static void varyingChanges() {
@@ -154,37 +149,37 @@ public final class StoreTest {
         Kit.ask(x, 2, "DELETE /\n\n");
         Kit.ask(x, 2, Kit.put("/", "a", "s99", "A"));
         Kit.fetch(x, 0, "GET /\nV:c\n\n");
-        dueStore(x, "when it does not vary any more", 1, 24);
+        KIT.dueStore(x, "when it does not vary any more", 1, 24);
         Kit.ask(x, 2, Kit.put("/", "b", "s99", "B"));
         Kit.fetch(x, 0, "GET /\nV:b\nC:n\n\n");
-        dueStore(x, "when it varies again", 1, 28);
+        KIT.dueStore(x, "when it varies again", 1, 28);
         Kit.ask(x, 2, "DELETE /\n\n");
         Kit.ask(x, 2, Kit.put("/", "a", "s99x", "A"));
         Kit.fetch(x, 0, "GET /\nV:zz\n\n");
-        dueStore(x, "when it does not vary and is not stored", 0, 0);
+        KIT.dueStore(x, "when it does not vary and is not stored", 0, 0);
     }
 
     private static void gone() {
         EdgeCache x = with("s99", "x");
         Kit.fetch(x, 0, "GET /\n\n");
         Kit.ask(x, 2, "DELETE /\n\n");
-        dueStore(x, "after DELETE at the origin", 1, 24);
+        KIT.dueStore(x, "after DELETE at the origin", 1, 24);
         Kit.send(x, 0, "GET /\nC:n\n\n");
         x.origin(0);
-        dueStore(x, "before 404 arrives", 1, 24);
+        KIT.dueStore(x, "before 404 arrives", 1, 24);
         x.arrive(0);
-        dueStore(x, "after 404", 0, 0);
+        KIT.dueStore(x, "after 404", 0, 0);
         EdgeCache y = twoLetters();
         Kit.fetch(y, 0, "GET /\nV:b\n\n");
         Kit.fetch(y, 0, "GET /\nV:a\n\n");
         Kit.ask(y, 2, "DELETE /\n\n");
         Kit.fetch(y, 0, "GET /\nV:b\nC:n\n\n");
-        dueStore(y, "after 404 for one V", 1, 28);
+        KIT.dueStore(y, "after 404 for one V", 1, 28);
         EdgeCache z = with("s99", "x");
         Kit.fetch(z, 0, "GET /\n\n");
         Kit.ask(z, 2, Kit.put("/", "b", "s99", "B"));
         Kit.fetch(z, 0, "GET /\nV:c\nC:n\n\n");
-        dueStore(z, "after 406", 0, 0);
+        KIT.dueStore(z, "after 406", 0, 0);
     }
 
     private static void invalidation() {
@@ -199,7 +194,7 @@ public final class StoreTest {
             x.origin(0);
             KIT.due("stored() before it arrives", x.stored(), 2);
             x.arrive(0);
-            dueStore(x, "after " + requests[i].replace("\n", "|"), left[i], 28 * left[i]);
+            KIT.dueStore(x, "after " + requests[i].replace("\n", "|"), left[i], 28 * left[i]);
         }
     }
 
@@ -210,7 +205,7 @@ public final class StoreTest {
         x.arrive(1);
         KIT.due("a spoiled job still asks", x.origin(0), 200);
         x.arrive(0);
-        dueStore(x, "after a spoiled job", 0, 0);
+        KIT.dueStore(x, "after a spoiled job", 0, 0);
         KIT.due("its answer", Kit.read(x, 0), "200\nE:2\nK:a\nL:1\n\ny204\nE:2\nL:0\n\n");
 
         EdgeCache y = with("s99", "x");
@@ -219,7 +214,7 @@ public final class StoreTest {
         y.arrive(1);
         y.origin(0);
         y.arrive(0);
-        dueStore(y, "after a PUT that failed", 1, 24);
+        KIT.dueStore(y, "after a PUT that failed", 1, 24);
 
         EdgeCache z = with("s99", "x");
         Kit.send(z, 0, "PUT /y\n\nDELETE /\nM:1\n\nGET /\n\n");
@@ -230,9 +225,9 @@ public final class StoreTest {
         Kit.ask(z, 2, Kit.put("/", "a", "s99", "z"));
         z.origin(1);
         z.arrive(1);
-        dueStore(z, "after a job that waited then", 1, 24);
+        KIT.dueStore(z, "after a job that waited then", 1, 24);
         z.arrive(0);
-        dueStore(z, "after a PUT of another path", 1, 24);
+        KIT.dueStore(z, "after a PUT of another path", 1, 24);
         spoiledGone();
         spoiledByEarlier();
     }
@@ -245,11 +240,11 @@ public final class StoreTest {
         Kit.ask(x, 2, Kit.put("/", "a", "s99", "w"));
         x.origin(1);
         x.arrive(1);
-        dueStore(x, "after a job behind the PUT", 1, 24);
+        KIT.dueStore(x, "after a job behind the PUT", 1, 24);
         Kit.ask(x, 2, "DELETE /\n\n");
         x.origin(0);
         x.arrive(0);
-        dueStore(x, "after 404 to a spoiled job", 0, 0);
+        KIT.dueStore(x, "after 404 to a spoiled job", 0, 0);
     }
 
     private static void spoiledByEarlier() {
@@ -260,7 +255,7 @@ public final class StoreTest {
         x.origin(1);
         x.arrive(1);
         KIT.due("304 to a spoiled job", x.arrive(0), 304);
-        dueStore(x, "after it", 0, 0);
+        KIT.dueStore(x, "after it", 0, 0);
         KIT.due("the answers", Kit.read(x, 0), "200\nE:1\nK:a\nP:s99\nL:1\n\nx204\nE:1\nL:0\n\n");
     }
 
@@ -288,11 +283,11 @@ public final class StoreTest {
         Kit.send(x, 1, "GET /\n\n");
         x.origin(1);
         x.arrive(1);
-        dueStore(x, "after the PUT", 0, 0);
+        KIT.dueStore(x, "after the PUT", 0, 0);
         KIT.due("the copy is kept", x.origin(1), 304);
         x.arrive(1);
         KIT.due("the answer of the copy", Kit.read(x, 1), "200\nE:1\nK:a\nL:1\n\nx");
-        dueStore(x, "after the copy", 1, 18);
+        KIT.dueStore(x, "after the copy", 1, 18);
     }
 
     private static void copyIsOfThen() {
@@ -300,17 +295,17 @@ public final class StoreTest {
         Kit.send(x, 0, "GET /\n\nGET /\n\n");
         x.origin(0);
         x.arrive(0);
-        dueStore(x, "after the first of two", 1, 18);
+        KIT.dueStore(x, "after the first of two", 1, 18);
         KIT.due("nothing was stored when the second came", x.origin(1), 200);
         x.arrive(1);
-        dueStore(x, "after the second", 1, 18);
+        KIT.dueStore(x, "after the second", 1, 18);
         Kit.read(x, 0);
         Kit.send(x, 0, "HEAD /\n\n");
         Kit.ask(x, 2, Kit.put("/", "b", "", "x"));
         KIT.due("a copy, when it varies now", x.origin(0), 304);
         x.arrive(0);
         KIT.due("it varies as the resource does", Kit.read(x, 0), "200\nE:1\nK:a\nY:V\nL:1\n\n");
-        dueStore(x, "after that", 1, 22);
+        KIT.dueStore(x, "after that", 1, 22);
     }
 
     private static void leastUsed() {
@@ -321,10 +316,10 @@ public final class StoreTest {
         for (int i = 1; i <= 3; i++) {
             Kit.fetch(x, 0, "GET /" + i + "\n\n");
         }
-        dueStore(x, "when it is full", 3, 72);
+        KIT.dueStore(x, "when it is full", 3, 72);
         Kit.ask(x, 0, "HEAD /1\nM:9\n\n");
         Kit.fetch(x, 0, "GET /4\n\n");
-        dueStore(x, "after one more", 3, 72);
+        KIT.dueStore(x, "after one more", 3, 72);
         KIT.due("the one used longest ago went", Kit.ask(x, 1, "HEAD /2\n\n"), "");
         KIT.due("upstream(0)", x.upstream(0), 1);
         Kit.ask(x, 2, Kit.put("/2", "a", "s99", "12345678"));

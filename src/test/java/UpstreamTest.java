@@ -34,27 +34,21 @@ public final class UpstreamTest {
         KIT.due("pass(1000)", x.pass(1000), 1);
     }
 
-    private static void dueState(EdgeCache x, String when, int first, int second, int queue) {
-        KIT.due("upstream(0) " + when, x.upstream(0), first);
-        KIT.due("upstream(1) " + when, x.upstream(1), second);
-        KIT.due("queue() " + when, x.queue(), queue);
-    }
-
     private static void sending() {
         EdgeCache x = new EdgeCache(0);
         Kit.send(x, 0, "PUT /a\n\n");
-        dueState(x, "with one job", 1, 0, 0);
+        KIT.dueJobs(x, "with one job", 1, 0, 0);
         Kit.send(x, 1, "PUT /b\n\nPUT /c\n\nPUT /d\n\nPUT /e\n\n");
-        dueState(x, "with five jobs", 1, 1, 3);
+        KIT.dueJobs(x, "with five jobs", 1, 1, 3);
         Kit.send(x, 0, "PUT /f\n\nPUT /g\n\nPUT /h\n\n");
-        dueState(x, "with eight jobs", 1, 1, 6);
+        KIT.dueJobs(x, "with eight jobs", 1, 1, 6);
         x.origin(1);
-        dueState(x, "with one done", 1, 2, 6);
+        KIT.dueJobs(x, "with one done", 1, 2, 6);
         x.arrive(1);
-        dueState(x, "with one arrived", 1, 1, 5);
+        KIT.dueJobs(x, "with one arrived", 1, 1, 5);
         x.origin(1);
         x.origin(0);
-        dueState(x, "with both done", 2, 2, 5);
+        KIT.dueJobs(x, "with both done", 2, 2, 5);
         x.arrive(0);
         x.origin(0);
         KIT.due("the jobs go in the order of their coming", Kit.ask(x, 2, "HEAD /d\n\nHEAD /e\n\n"),
@@ -63,12 +57,12 @@ public final class UpstreamTest {
                 "200\nE:3\nK:a\nL:0\n\n200\nE:2\nK:a\nL:0\n\n");
         x.arrive(1);
         x.arrive(0);
-        dueState(x, "with four arrived", 1, 1, 2);
+        KIT.dueJobs(x, "with four arrived", 1, 1, 2);
         for (int i = 0; i < 3; i++) {
             x.origin(0);
             x.arrive(0);
         }
-        dueState(x, "with one left", 0, 1, 0);
+        KIT.dueJobs(x, "with one left", 0, 1, 0);
     }
 
     private static void dueOrigin(EdgeCache x, String request, int want) {
@@ -106,20 +100,20 @@ public final class UpstreamTest {
         Kit.send(x, 0, "PUT /b\n\nPUT /c\n\nPUT /d\n\n");
         x.origin(0);
         KIT.due("pass(8)", x.pass(8), 0);
-        dueState(x, "after 9 seconds", 2, 1, 2);
+        KIT.dueJobs(x, "after 9 seconds", 2, 1, 2);
         KIT.due("pass(1)", x.pass(1), 1);
-        dueState(x, "after 10 seconds", 1, 1, 1);
+        KIT.dueJobs(x, "after 10 seconds", 1, 1, 1);
         KIT.due("pass(0)", x.pass(0), 0);
         KIT.due("waiting(0)", x.waiting(0), 3);
         KIT.due("its answer", Kit.read(x, 0), Kit.bare(504));
         KIT.due("what the origin did is done", Kit.ask(x, 2, "HEAD /a\n\n"), "200\nE:1\nK:a\nL:0\n\n");
         KIT.due("pass(1000)", x.pass(1000), 2);
-        dueState(x, "after both ended", 1, 0, 0);
+        KIT.dueJobs(x, "after both ended", 1, 0, 0);
         KIT.due("sent at the new clock", x.pass(9), 0);
         KIT.due("pass(1) ends it", x.pass(1), 1);
         KIT.due("the answers", Kit.read(x, 0), Kit.bare(504) + Kit.bare(504) + Kit.bare(504));
         KIT.due("not done, and gone", Kit.ask(x, 2, "HEAD /b\n\nHEAD /d\n\n"), Kit.bare(404) + Kit.bare(404));
-        dueState(x, "at the end", 0, 0, 0);
+        KIT.dueJobs(x, "at the end", 0, 0, 0);
     }
 
     private static void lateOrigin() {
