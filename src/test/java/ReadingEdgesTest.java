@@ -181,6 +181,9 @@ public final class ReadingEdgesTest {
             KIT.duePath("/" + pair, "/" + pair.toUpperCase());
             KIT.duePath("/" + pair.toUpperCase(), "/" + pair.toLowerCase());
         }
+        KIT.dueOtherPath("/%5b", "/&5B");
+        KIT.dueOtherPath("/%5b", "/$5B");
+        KIT.dueOtherPath("/%5b", "/5B");
         KIT.duePath("/%2541", "/%2541");
         KIT.dueOtherPath("/%2541", "/A");
         KIT.dueOtherPath("/%2541", "/%41");
