@@ -1007,7 +1007,7 @@ public final class EdgeCache {
             if (arrived.size > capacity) {
                 return;
             }
-            while (!byUse.isEmpty() && total + arrived.size > capacity) {
+            for (int left = byUse.size(); left > 0 && total + arrived.size > capacity; left--) {
                 drop(0);
             }
             byUse.add(arrived);

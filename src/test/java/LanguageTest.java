@@ -25,6 +25,17 @@ public final class LanguageTest {
             kit.due("lines of " + method.group(2), method.group(4).split("\n").length <= 60, true);
             kit.due("parameters of " + method.group(2), method.group(3).split(",").length <= 7, true);
         }
+        dueLoopEnds(kit, code);
         kit.end();
+    }
+
+    /** Rule 9: the end of a loop shows in its own lines: each counts there (or goes over an array), none leaves that to a method. */
+    private static void dueLoopEnds(Kit kit, String code) {
+        Matcher loop = Pattern.compile("(?m)^( +)(while|for) \\((.*)\\) \\{\\n(?s:(.*?))\\n\\1\\}").matcher(code);
+        for (int from = 0; loop.find(from); from = loop.end(3)) {
+            String own = loop.group(2).equals("for") ? loop.group(3) : loop.group(4);
+            boolean counts = Pattern.compile("\\w(\\+\\+|--)|\\w [+-]= \\d|\\w : \\w").matcher(own).find();
+            kit.due("the counter of " + loop.group(2) + " (" + loop.group(3) + ")", counts, true);
+        }
     }
 }
